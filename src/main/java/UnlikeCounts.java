@@ -15,7 +15,6 @@ public final class UnlikeCounts {
     private static final int MOST_SIDE = 4;
     private static final int MOST_SORTED = 5;
     private static final int MOST_WEEKS = 99;
-    private static final int IMAGES = 2;
 
     private static final int FREE = 0;
     private static final int BARRED = 1;
@@ -29,14 +28,13 @@ public final class UnlikeCounts {
     private final Weigher weigher = new Weigher();
     private final Ways ways = new Ways();
     private final Book book = new Book();
-    private final Image[] images = new Image[IMAGES];
+    private final Image imageZero = new Image();
+    private final Image imageOne = new Image();
     private int seedNow;
 
     /** P1. */
     public UnlikeCounts() {
-        for (int i = 0; i < IMAGES; i++) {
-            images[i] = new Image();
-        }
+        // Every part begins empty by itself.
     }
 
     // ---- the town
@@ -62,9 +60,8 @@ public final class UnlikeCounts {
         now.copyFrom(telling.draftTown());
         now.sayCounts();
         book.empty();
-        for (int i = 0; i < IMAGES; i++) {
-            images[i].kept = false;
-        }
+        imageZero.kept = false;
+        imageOne.kept = false;
         return now.size;
     }
 
@@ -403,25 +400,27 @@ public final class UnlikeCounts {
 
     /** P32. */
     public int keep(int i) {
-        if (i < 0 || i >= IMAGES) {
+        if (i < 0 || i > 1) {
             return UNKNOWN;
         }
-        images[i].town.copyFrom(now);
-        images[i].seedThen = seedNow;
-        images[i].kept = true;
+        Image image = i == 0 ? imageZero : imageOne;
+        image.town.copyFrom(now);
+        image.seedThen = seedNow;
+        image.kept = true;
         return 1;
     }
 
     /** P33. */
     public int goBack(int i) {
-        if (i < 0 || i >= IMAGES) {
+        if (i < 0 || i > 1) {
             return UNKNOWN;
         }
-        if (!images[i].kept) {
+        Image image = i == 0 ? imageZero : imageOne;
+        if (!image.kept) {
             return NOT;
         }
-        now.copyFrom(images[i].town);
-        seedNow = images[i].seedThen;
+        now.copyFrom(image.town);
+        seedNow = image.seedThen;
         return 1;
     }
 
@@ -459,7 +458,7 @@ public final class UnlikeCounts {
 
     private int draw(int n) {
         // Wrapping is harmless: what is left over by 2 to the 31 is the low bits.
-        seedNow = (seedNow * 1103515245 + 12345) & Integer.MAX_VALUE;
+        seedNow = (seedNow * 1103515245 + 12345) & 0x7fffffff;
         return n > 0 ? seedNow / 65536 % n : 0;
     }
 
@@ -467,7 +466,7 @@ public final class UnlikeCounts {
         return (i + j >= n) == (way == 0);
     }
 
-    /** Persons, friendships, bars, counts told; rows are SETS, a person each. */
+    /** Persons, friendships, bars, counts told; rows are SETS, a person each, empty behind the last person. */
     private static final class Town {
         private int size;
         private int makeCost = 1;
@@ -609,7 +608,6 @@ public final class UnlikeCounts {
         /** Needs a free place: the callers look at the size. */
         void addPerson() {
             if (size < MOST_PERSONS) {
-                forget(size);
                 size++;
                 sayCounts();
             }
@@ -855,7 +853,7 @@ public final class UnlikeCounts {
     private static final class Maker {
         private static final int PLACE_BITS = 3;
         private static final int ROW_BITS = PLACE_BITS * MOST_PERSONS;
-        private static final long NEVER = Long.MAX_VALUE;
+        private static final long NEVER = 1L << 62;
 
         /** By SET: the price, and behind it the row of places, person 0's highest; it is least for the first row. */
         private final long[] least = new long[1 << MOST_PERSONS];
@@ -1018,9 +1016,11 @@ public final class UnlikeCounts {
             int rows = s.rowsOf(p);
             for (int row = 0; row < rows; row++) {
                 int next = town | row << s.rowStart[p];
-                int more = alike + s.alikeBelow(next, p);
-                if (s.keepsBars(next, p) && s.canWin(next, p, more)) {
-                    nearestFrom(s, p + 1, next, more);
+                if (s.keepsBars(next, p)) {
+                    int more = alike + s.alikeBelow(next, p);
+                    if (s.canWin(next, p, more)) {
+                        nearestFrom(s, p + 1, next, more);
+                    }
                 }
             }
         }
@@ -1132,15 +1132,13 @@ public final class UnlikeCounts {
             for (int p = 0; p < town.size; p++) {
                 sums[p] = 0;
                 if (town.ties[p] == 0) {
-                    friendless |= 1 << p;
+                    friendless++;
                 }
             }
             least = NONE;
-            if (Integer.bitCount(friendless) > 1) {
-                return;
-            }
-            for (int most = 1; most <= MOST_WEIGHT && least == NONE; most++) {
-                if (weighFrom(this, 0, most, friendless)) {
+            // One friendless person differs from all others anyway; two never differ.
+            for (int most = 1; most <= MOST_WEIGHT && friendless < 2 && least == NONE; most++) {
+                if (weighFrom(this, 0, most, 0)) {
                     least = most;
                 }
             }

@@ -102,7 +102,7 @@ public final class LanguageTest {
         String code = source.replaceAll("(?s)/\\*.*?\\*/", " ").replaceAll("//[^\n]*", " ");
         String[] barred = {"throw", "throws", "try", "catch", "finally", "synchronized", "assert", "native", "import",
             "package", "protected", "volatile", "transient", "null", "Object", "Math\\.\\w+Exact", "System", "->", "::",
-            "hashCode", "toString", "@\\w+", "static \\{"};
+            "hashCode", "toString", "@\\w+", "static \\{", "MAX_VALUE", "MIN_VALUE"};
         for (String word : barred) {
             String pattern = Character.isLetter(word.charAt(0)) ? "\\b" + word + "\\b" : word;
             Matcher found = Pattern.compile(pattern).matcher(code);

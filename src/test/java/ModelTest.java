@@ -5,6 +5,8 @@ public final class ModelTest {
     private static final Due DUE = new Due("ModelTest");
     private static final String[] WORDS = {"people", "friends", "barred", "must", "cost", "peopl", "costs", "a"};
 
+    private static final int[] WILD = {Integer.MIN_VALUE, Integer.MAX_VALUE, -1000000001, -33, 31, 32, 64, 65536};
+
     private final Random chance;
     private final UnlikeCounts x = new UnlikeCounts();
     private final Model model = new Model();
@@ -40,19 +42,25 @@ public final class ModelTest {
         for (step = 0; step < number; step++) {
             change();
             look();
-            if (chance.nextInt(3) == 0) {
-                ask();
-            }
+            ask();
+            ask();
         }
     }
 
     /** Mostly a person that there is, at times one that there is not. */
     private int person() {
         int n = model.told(0);
+        if (chance.nextInt(50) == 0) {
+            return WILD[chance.nextInt(WILD.length)];
+        }
         return n == 0 || chance.nextInt(25) == 0 ? chance.nextInt(12) - 2 : chance.nextInt(n);
     }
 
+    /** Mostly within the bounds, at times by one or two outside, seldom far. */
     private int near(int least, int most) {
+        if (chance.nextInt(50) == 0) {
+            return WILD[chance.nextInt(WILD.length)];
+        }
         return chance.nextInt(25) == 0 ? chance.nextInt(most - least + 5) + least - 2
                 : least + chance.nextInt(most - least + 1);
     }
@@ -112,6 +120,8 @@ public final class ModelTest {
         same("judge 1", x.judge(1), model.judge(1));
         int what = near(0, 1);
         same("judge", x.judge(what), model.judge(what));
+        int few = near(-1, 0);
+        same("feed " + few, x.feed(few, 0), model.feed(few, 0));
         int n = near(2, 8);
         int way = near(0, 1);
         int i = near(0, 7);
@@ -121,25 +131,30 @@ public final class ModelTest {
         same("weight", x.weight(p, q), model.weight(p, q));
     }
 
+    /** What the model answers slowly is asked one at a time, in any order. */
     private void ask() {
         int p = person();
         int what = near(0, 1);
-        int which = near(0, 2);
-        int degree = near(0, 5);
-        if (model.told(0) < 8 || chance.nextInt(4) == 0) {
-            int row = chance.nextInt(5) - 3;
-            same("good " + row, x.good(row), model.good(row));
-            same("good", x.good(p), model.good(p));
-            same("dies", x.dies(p), model.dies(p));
+        switch (chance.nextInt(10)) {
+            case 0, 1 -> {
+                int row = chance.nextInt(5) - 3;
+                same("good " + row, x.good(row), model.good(row));
+            }
+            case 2 -> same("good", x.good(p), model.good(p));
+            case 3 -> same("born", x.born(), model.born());
+            case 4 -> same("dies", x.dies(p), model.dies(p));
+            case 5 -> {
+                int which = near(0, 2);
+                same("nearest", x.nearest(which), model.nearest(which));
+            }
+            case 6 -> {
+                int degree = near(0, 5);
+                same("even", x.even(degree, what), model.even(degree, what));
+            }
+            case 7 -> same("canBe", x.canBe(), model.canBe());
+            case 8 -> same("sure", x.sure(p, what), model.sure(p, what));
+            default -> same("liar", x.liar(), model.liar());
         }
-        if (model.told(0) < 7 || chance.nextInt(4) == 0) {
-            same("born", x.born(), model.born());
-        }
-        same("nearest", x.nearest(which), model.nearest(which));
-        same("even", x.even(degree, what), model.even(degree, what));
-        same("canBe", x.canBe(), model.canBe());
-        same("sure", x.sure(p, what), model.sure(p, what));
-        same("liar", x.liar(), model.liar());
     }
 
     // ---- chance texts
@@ -182,7 +197,7 @@ public final class ModelTest {
         int barred = chance.nextInt(5);
         StringBuilder s = new StringBuilder();
         s.append(gap()).append("people").append(gap()).append(figures(n)).append(gap()).append(';').append(gap());
-        if (chance.nextInt(3) > 0) {
+        if (chance.nextBoolean()) {
             s.append("cost").append(gap()).append(1 + chance.nextInt(9)).append(' ').append(gap());
             s.append(1 + chance.nextInt(9)).append(gap()).append(';').append(gap());
         }

@@ -152,6 +152,14 @@ public final class PromisesTest {
         fault("cost 1 1;people 2;", 1, 0);
         fault("peopl 2;", 1, 0);
         fault("peoples 2;", 1, 0);
+        fault("peoplez 2;", 1, 0);
+        fault("beople 2;", 1, 0);
+        fault("people 2;lost 1 1;", 1, 9);
+        fault("people 2;cosz 1 1;", 1, 9);
+        fault("people 2;`friends 0 1;", 1, 9);
+        fault("people 2;friends{ 0 1;", 1, 16);
+        fault("people 2:", 1, 8);
+        fault("people 2/", 1, 8);
         fault("people", 1, 6);
         fault("people  ", 1, 8);
         fault("people 2", 1, 8);
@@ -422,6 +430,14 @@ public final class PromisesTest {
         due("three: town", three.good(-3), 4);
         due("three: places", three.good(0) * 100 + three.good(1) * 10 + three.good(2), 12);
         due("nothing changes", three.told(2), 0);
+        // A path of four: one less is way 0, one more is way 1.
+        UnlikeCounts path = told("people 4;friends 0 1;friends 1 2;friends 2 3;");
+        due("path: price", path.good(-1), 1);
+        due("path: the lesser way", path.good(-2), 0);
+        due("path: town", path.good(-3), 8 + 32);
+        due("path: places", path.good(0) * 1000 + path.good(1) * 100 + path.good(2) * 10 + path.good(3), 132);
+        UnlikeCounts dear = told("people 4;friends 0 1;friends 1 2;friends 2 3;cost 1 2;");
+        due("path, dropping is dear: way", dear.good(-2), 1);
     }
 
     private static void makingBesideBars() {
@@ -504,6 +520,13 @@ public final class PromisesTest {
 
     // P20, P21, P22
     private static void countsTold() {
+        UnlikeCounts star = told("people 4;friends 0 1;friends 0 2;friends 0 3;");
+        due("sure ahead of all", star.sure(0, 0), 14);
+        star.tell(3, 0);
+        star.tell(0, 2);
+        due("sure behind a change", star.sure(0, 0), 6);
+        star.tell(0, 3);
+        due("perhaps behind a change", star.sure(0, 1), 0);
         UnlikeCounts x = told("people 4;friends 0 1;friends 1 2;friends 2 3;barred 0 3;");
         due("canBe()", x.canBe(), 2);
         due("SURE of 1", x.sure(1, 0), 4);
