@@ -473,6 +473,15 @@ public final class CallBoundsTest {
                 due("TOWN of " + n, x.nearest(2), 0);
             }
         }
+        // The same object with ever fewer persons, and a dear dropping.
+        UnlikeCounts fewer = told("people 6;cost 1 9;");
+        for (int n = 6; n > 0; n--) {
+            due("pairs ALIKE of " + n + " left", fewer.nearest(0), n > 1 ? 1 : 0);
+            due("PRICE of " + n + " left", fewer.nearest(1), n > 1 ? fewer.good(-1) : 0);
+            fewer.death(0);
+        }
+        UnlikeCounts dear = told("people 3;friends 0 1;friends 0 2;friends 1 2;cost 1 9;");
+        due("PRICE of a dropping", dear.nearest(1), 9);
         // "then the least number": of the three single ties the pair of NUMBER 0.
         due("TOWN of 3", people(3).nearest(2), 1);
         due("TOWN of 2", people(2).nearest(2), 0);
@@ -620,6 +629,11 @@ public final class CallBoundsTest {
             due("sure(0, 2)", x.sure(0, 2), OUTSIDE);
             due("sure(0, -1)", x.sure(0, -1), OUTSIDE);
         }
+        // Counts 1 1 1 1: any other one perhaps, none surely.
+        UnlikeCounts four = people(4);
+        sayAll(four, 1);
+        due("three towns: SURE", four.sure(0, 0), 0);
+        due("three towns: PERHAPS", four.sure(0, 1), 14);
         due("of none", people(0).sure(0, 0), UNKNOWN);
         due("of 7", people(7).sure(6, 1), NOT);
         due("of 8", people(8).sure(7, 0), NOT);
@@ -658,6 +672,12 @@ public final class CallBoundsTest {
         three.tell(2, 1);
         due("each of them", three.liar(), 7);
         due("and it cannot be", three.canBe(), 0);
+        // Of one town alone as told, though it could also be with another count of the first: 0.
+        UnlikeCounts four = told("people 4;friends 0 1;friends 0 2;");
+        due("one town", four.canBe(), 1);
+        due("as told: none lies", four.liar(), 0);
+        four.tell(0, 1);
+        due("told wrong: the first, by 0 or 2, or another", four.liar(), 1 + 2 + 4 + 8);
     }
 
     // ---- P24: "p = NONE the least g, else the WEIGHT of the friendship of p and q (0: they are none);

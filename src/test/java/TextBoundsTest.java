@@ -317,6 +317,9 @@ public final class TextBoundsTest {
         fault("people 2;cost 1 1;cost 0 0;", 3, 18);
         fault("people 2;cost 2 2; friends 0 1; cost 2 2;", 3, 32);
         fault("people 2;cost 1 1;people 2;cost 1 1;", 3, 18);
+        UnlikeCounts x = new UnlikeCounts();
+        due("once in a text", Due.townOf(x, "people 2;cost 1 1;"), 2);
+        due("once in the next", Due.townOf(x, "people 2;cost 1 1;"), 2);
     }
 
     // ---- "NUMBERS have one to three figures"; "2 a NUMBER of four figures or more, or out of its bounds"
